@@ -32,15 +32,10 @@ public final class NumberPlace {
     private final Position trial = new Position();
     private final Reasoner reasoner = new Reasoner();
     private final Solver solver = new Solver();
+    private final Solver trialSolver = new Solver();
     private final Shuffler shuffler = new Shuffler();
     private final int[] digitOrder = new int[DIGITS];
     private final int[] cellOrder = new int[CELLS];
-
-    // What was found out about the present position, so that asking again costs nothing.
-    private int knownLimit;
-    private int knownSolutions;
-    private int knownSuperfluous;
-    private boolean guessesKnown;
 
     public NumberPlace() {
         for (int k = 0; k < MOST_SAVED; k++) {
@@ -119,7 +114,19 @@ public final class NumberPlace {
         now.wipe();
         shuffler.seed(seed);
         fillGrid();
-        int left = takeGivensAway(givens);
+        orderCells();
+        int left = CELLS;
+        for (int k = 0; k < CELLS && left > givens; k++) {
+            int cell = cellOrder[k];
+            int digit = now.given[cell];
+            now.given[cell] = 0;
+            beginTrial();
+            if (trialSolver.countSolutions(trial, now.rules, 2) == 1) {
+                left--;
+            } else {
+                now.given[cell] = digit;
+            }
+        }
         now.position.beginWith(now.given);
         return left;
     }
@@ -229,20 +236,29 @@ public final class NumberPlace {
         if (most < 1 || most > MOST_SOLUTIONS) {
             throw new IllegalArgumentException("most is out of range");
         }
-        return solutionsUpTo(most);
+        return solver.countSolutions(now.position, now.rules, most);
     }
 
     public int guesses() {
-        return findFirstSolution() ? solver.guessed : NONE;
+        // Without a solution all guesses would be made in vain: the quicker search finds that out.
+        if (solver.countSolutions(now.position, now.rules, 1) == 0) {
+            return NONE;
+        }
+        return solver.countGuesses(now.position, now.rules);
     }
 
     public int solved(int cell) throws IndexOutOfBoundsException {
         checkCell(cell);
-        return findFirstSolution() ? solver.first.lowestDigitOf(cell) : 0;
+        if (solver.countSolutions(now.position, now.rules, 1) == 0) {
+            return 0;
+        }
+        solver.countGuesses(now.position, now.rules);
+        return solver.first.lowestDigitOf(cell);
     }
 
     public int superfluous() {
-        return solutionsUpTo(MOST_SOLUTIONS + 1) > MOST_SOLUTIONS ? NONE : knownSuperfluous;
+        int found = solver.countSolutions(now.position, now.rules, MOST_SOLUTIONS + 1);
+        return found > MOST_SOLUTIONS ? NONE : solver.countUnseen(now.position);
     }
 
     public boolean possible(int cell, int digit) throws IndexOutOfBoundsException, IllegalArgumentException {
@@ -250,7 +266,8 @@ public final class NumberPlace {
         checkDigit(digit);
         trial.copyFrom(now.position);
         trial.keepOnly(cell, digit);
-        return solver.countSolutions(trial, now.rules, 1) > 0;
+        trialSolver.forget();
+        return trialSolver.countSolutions(trial, now.rules, 1) > 0;
     }
 
     public int needed() {
@@ -259,7 +276,8 @@ public final class NumberPlace {
             int digit = now.given[cell];
             if (digit != 0) {
                 now.given[cell] = 0;
-                result += countWithGivens(2) > 1 ? 1 : 0;
+                beginTrial();
+                result += trialSolver.countSolutions(trial, now.rules, 2) > 1 ? 1 : 0;
                 now.given[cell] = digit;
             }
         }
@@ -300,7 +318,7 @@ public final class NumberPlace {
         }
         savedCount--;
         now.copyFrom(saved[(oldestSaved + savedCount) % MOST_SAVED]);
-        forgetAnswers();
+        solver.forget();
         return savedCount;
     }
 
@@ -359,40 +377,13 @@ public final class NumberPlace {
         } else {
             oldestSaved = (oldestSaved + 1) % MOST_SAVED;
         }
-        forgetAnswers();
+        solver.forget();
     }
 
-    private void forgetAnswers() {
-        knownLimit = 0;
-        knownSolutions = 0;
-        guessesKnown = false;
-    }
-
-    /** The solutions of the present position, counted only as far as they were not counted before. */
-    private int solutionsUpTo(int most) {
-        boolean allFound = knownSolutions < knownLimit;
-        if (!allFound && knownLimit < most) {
-            knownSolutions = solver.countSolutions(now.position, now.rules, most);
-            knownLimit = most;
-            knownSuperfluous = solver.countUnseen(now.position);
-        }
-        return Math.min(knownSolutions, most);
-    }
-
-    private boolean findFirstSolution() {
-        if (solutionsUpTo(1) == 0) {
-            return false;
-        }
-        if (!guessesKnown) {
-            solver.solveInOrder(now.position, now.rules);
-            guessesKnown = true;
-        }
-        return true;
-    }
-
-    private int countWithGivens(int most) {
+    /** Makes the trial the puzzle with the present givens, anew. */
+    private void beginTrial() {
         trial.beginWith(now.given);
-        return solver.countSolutions(trial, now.rules, most);
+        trialSolver.forget();
     }
 
     private void fillGrid() {
@@ -407,23 +398,11 @@ public final class NumberPlace {
         }
     }
 
-    private int takeGivensAway(int atLeast) {
+    private void orderCells() {
         for (int k = 0; k < CELLS; k++) {
             cellOrder[k] = k;
         }
         shuffler.shuffle(cellOrder);
-        int left = CELLS;
-        for (int k = 0; k < CELLS && left > atLeast; k++) {
-            int cell = cellOrder[k];
-            int digit = now.given[cell];
-            now.given[cell] = 0;
-            if (countWithGivens(2) == 1) {
-                left--;
-            } else {
-                now.given[cell] = digit;
-            }
-        }
-        return left;
     }
 
     /** The geometry of the grid, and what is asked of sets of cells. */
@@ -617,9 +596,10 @@ public final class NumberPlace {
         int removeDigits(int digits, long cells) {
             int removed = 0;
             for (int digit = 1; digit <= DIGITS; digit++) {
-                if ((digits >> digit & 1) != 0) {
-                    removed += remove(digit, cells);
-                }
+                long hit = (digits >> digit & 1) != 0 ? spots[digit] & cells : 0;
+                spots[digit] &= ~hit;
+                touched |= hit;
+                removed += Long.bitCount(hit);
             }
             return removed;
         }
@@ -871,17 +851,11 @@ public final class NumberPlace {
             if (some != ALL_CELLS) {
                 return 0;
             }
-            boolean done = placeSingle(p, rules) || keepOnlyPlace(p) || askConstraints(p, rules)
+            boolean done = placeSingle(p, rules) || keepOnlyPlace(p)
+                    || wake(p, rules) && (askKind(p, rules, THERMOMETER, BY_THERMOMETER)
+                            || askKind(p, rules, CAGE, BY_CAGE) || askKind(p, rules, ARROW, BY_ARROW))
                     || lockAnywhere(p) || splitPair(p);
             return done ? kind : 0;
-        }
-
-        void exhaust(Position p, Rules rules) {
-            for (int n = 0; n < MOST_STEPS; n++) {
-                if (next(p, rules) == 0) {
-                    break;
-                }
-            }
         }
 
         private boolean note(int newKind, int newPlace, int newRemoved) {
@@ -926,11 +900,11 @@ public final class NumberPlace {
             return false;
         }
 
-        private boolean askConstraints(Position p, Rules rules) {
+        /** Marks the constraints that are to be looked at; tells whether there are any. */
+        private static boolean wake(Position p, Rules rules) {
             p.stale |= rules.touching(p.touched);
             p.touched = 0;
-            return p.stale != 0 && (askKind(p, rules, THERMOMETER, BY_THERMOMETER)
-                    || askKind(p, rules, CAGE, BY_CAGE) || askKind(p, rules, ARROW, BY_ARROW));
+            return p.stale != 0;
         }
 
         private boolean askKind(Position p, Rules rules, int constraintKind, int deductionKind) {
@@ -1012,8 +986,9 @@ public final class NumberPlace {
         private final Position[] levels = new Position[LEVELS];
         private final long[] seen = new long[DIGITS + 1];
         private final Position first = new Position();
+        private int limit;
         private int found;
-        private int wanted;
+        private boolean guessesKnown;
         private int guessed;
         // atLeast[k]: the cells of the ranked position with at least k candidates.
         private final long[] atLeast = new long[DIGITS + 2];
@@ -1027,16 +1002,30 @@ public final class NumberPlace {
             }
         }
 
-        /** Makes the guesses of the document until the first solution, counting them. */
-        void solveInOrder(Position start, Rules rules) {
-            guessed = 0;
-            levels[0].copyFrom(start);
-            solveLevel(this, rules, 0);
+        /** To be called when the next question is about another position than the last one. */
+        void forget() {
+            limit = 0;
+            found = 0;
+            guessesKnown = false;
+        }
+
+        /** Makes the guesses of the document until the first solution, and tells how many they were. */
+        int countGuesses(Position start, Rules rules) {
+            if (!guessesKnown) {
+                guessed = 0;
+                levels[0].copyFrom(start);
+                solveLevel(this, rules, 0);
+                guessesKnown = true;
+            }
+            return guessed;
         }
 
         private static boolean solveLevel(Solver s, Rules rules, int level) {
             Position p = s.levels[level];
-            s.reasoner.exhaust(p, rules);
+            int steps = 0;
+            while (steps < MOST_STEPS && s.reasoner.next(p, rules) != 0) {
+                steps++;
+            }
             if (p.isFinished()) {
                 s.first.copyFrom(p);
                 return true;
@@ -1085,24 +1074,30 @@ public final class NumberPlace {
         }
 
         /**
-         * Counts solutions. Which guesses are made has no influence on their number, so the guesses
-         * are such that a contradiction shows early.
+         * Counts solutions, unless they were counted far enough before. Which guesses are made has
+         * no influence on their number, so these are such that a contradiction shows early.
          */
         int countSolutions(Position start, Rules rules, int most) {
-            for (int digit = 1; digit <= DIGITS; digit++) {
-                seen[digit] = 0;
+            boolean allFound = found < limit;
+            if (!allFound && limit < most) {
+                limit = most;
+                found = 0;
+                for (int digit = 1; digit <= DIGITS; digit++) {
+                    seen[digit] = 0;
+                }
+                preferred = rules.area();
+                levels[0].copyFrom(start);
+                countLevel(this, rules, 0);
             }
-            found = 0;
-            wanted = most;
-            preferred = rules.area();
-            levels[0].copyFrom(start);
-            countLevel(this, rules, 0);
-            return found;
+            return Math.min(found, most);
         }
 
         private static void countLevel(Solver s, Rules rules, int level) {
             Position p = s.levels[level];
-            s.reasoner.exhaust(p, rules);
+            int steps = 0;
+            while (steps < MOST_STEPS && s.reasoner.next(p, rules) != 0) {
+                steps++;
+            }
             if (p.isFinished()) {
                 s.noteSolution(p);
                 return;
@@ -1114,7 +1109,7 @@ public final class NumberPlace {
             int digits = s.branchDigits;
             for (int digit = 1; digit <= DIGITS; digit++) {
                 long left = (digits >> digit & 1) != 0 ? cells & p.spots[digit] : 0;
-                for (int n = Long.bitCount(left); n > 0 && s.found < s.wanted; n--) {
+                for (int n = Long.bitCount(left); n > 0 && s.found < s.limit; n--) {
                     s.levels[level + 1].copyFrom(p);
                     s.levels[level + 1].keepOnly(Grid.lowest(left), digit);
                     left &= left - 1;
@@ -1132,7 +1127,7 @@ public final class NumberPlace {
 
         /**
          * Chooses the fewest guesses of which just one is right: the digits of a cell, or the places
-         * of a digit in a unit; of equally few those in a constraint. False if a digit has no place.
+         * of a digit in a unit. False if a digit has no place.
          */
         private boolean chooseBranch(Position p) {
             int best = chooseCell(p);
@@ -1169,11 +1164,12 @@ public final class NumberPlace {
             return best;
         }
 
+        /** A guess outside the constraints counts double: contradictions mostly come from within. */
         private int rate(int ways, long cells) {
-            return 2 * ways + ((cells & preferred) == 0 ? 1 : 0);
+            return (cells & preferred) == 0 ? 2 * ways : ways;
         }
 
-        /** The candidates of a position that were in none of the solutions counted last. */
+        /** The candidates of a position that were in none of the counted solutions. */
         int countUnseen(Position p) {
             int result = 0;
             for (int digit = 1; digit <= DIGITS; digit++) {
@@ -1265,7 +1261,7 @@ public final class NumberPlace {
         }
 
         private void readCells(Rules rules, int index) {
-            while (here() == ':' && !rules.isFull(index)) {
+            for (int place = 0; place < Rules.ROW && here() == ':' && !rules.isFull(index); place++) {
                 at++;
                 int start = at;
                 int cell = readNumber(0, CELLS - 1);
