@@ -1,3 +1,6 @@
+import java.util.ArrayList;
+import java.util.List;
+
 /** Promises 14 to 19: every kind of deduction, hints, the log and needs. */
 public final class DeductionTest {
     private static final Check check = new Check();
@@ -5,11 +8,14 @@ public final class DeductionTest {
     public static void main(String[] args) {
         single();
         onlyPlace();
+        everyUnitAndDigit();
         thermometer();
         cage();
         arrow();
         locked();
+        lockedLines();
         pair();
+        pairs();
         order();
         deadPosition();
         steps();
@@ -80,6 +86,19 @@ public final class DeductionTest {
         }
         next(z, "only place in a box, the lowest digit", 2, 15, 5);
         check.due("14: only place in a box", z.candidates(23), 4);
+    }
+
+    private static void everyUnitAndDigit() {
+        for (int unit = 0; unit < 18; unit++) {
+            for (int digit = 1; digit <= 6; digit++) {
+                NumberPlace x = new NumberPlace();
+                for (int k = 0; k < 5; k++) {
+                    x.strike(PlainDesk.UNITS.get(unit).get(k), digit);
+                }
+                check.due("16: hintPlace alone, unit " + unit, x.hintPlace(), unit);
+                next(x, "only place for " + digit + " in unit " + unit, 2, unit, 5);
+            }
+        }
     }
 
     private static void thermometer() {
@@ -171,6 +190,45 @@ public final class DeductionTest {
         end(z, "locked");
     }
 
+    /** For every box and line that meet, and every digit: the box's lie in the line. */
+    private static void lockedLines() {
+        for (int box = 0; box < 6; box++) {
+            for (int line = 0; line < 12; line++) {
+                List<Integer> rest = new ArrayList<>(PlainDesk.UNITS.get(12 + box));
+                rest.removeAll(PlainDesk.UNITS.get(line));
+                for (int digit = 1; digit <= 6 && rest.size() < 6; digit++) {
+                    NumberPlace x = new NumberPlace();
+                    for (int c : rest) {
+                        x.strike(c, digit);
+                    }
+                    // Where it is a row, the box on the left may say it first: it has the other row.
+                    int place = line < 6 ? box / 2 * 2 : box;
+                    next(x, "box " + box + " in line " + line, 6, place, line < 6 ? 3 : 4);
+                }
+            }
+        }
+    }
+
+    /** A pair in every unit that takes just one candidate from one cell. */
+    private static void pairs() {
+        for (int unit = 0; unit < 18; unit++) {
+            List<Integer> cells = PlainDesk.UNITS.get(unit);
+            NumberPlace x = new NumberPlace();
+            // The digits 1 and 2 stand in the pair, and 1 besides in one more cell of the unit.
+            Check.strikeAll(x, cells.get(1), 3, 4, 5, 6);
+            Check.strikeAll(x, cells.get(5), 3, 4, 5, 6);
+            Check.strikeAll(x, cells.get(0), 1, 2);
+            Check.strikeAll(x, cells.get(2), 1, 2);
+            Check.strikeAll(x, cells.get(3), 1, 2);
+            Check.strikeAll(x, cells.get(4), 2);
+            while (x.hint() == 6) {
+                x.deduce(1);
+            }
+            next(x, "pair in unit " + unit, 7, unit, 1);
+            check.due("14: pair in unit " + unit, x.candidates(cells.get(4)), 126 - 2 - 4);
+        }
+    }
+
     private static void pair() {
         NumberPlace x = new NumberPlace();
         Check.strikeAll(x, 30, 1, 2, 3, 4);
@@ -259,6 +317,15 @@ public final class DeductionTest {
             check.due("18: place " + k, x.step(k, 1), done[n - 100 + k][1]);
         }
         check.index(x, "18: index 100", () -> x.step(100, 0));
+        long before = x.digest();
+        x.strike(0, 1);
+        check.due("17: emptied", x.logged(), 0);
+        x.deduce(500);
+        x.undo();
+        x.undo();
+        x.deduce(0);
+        x.deduce(0);
+        check.due("18: the full log is back", x.digest(), before);
     }
 
     private static void stepRefusals() {

@@ -10,6 +10,7 @@ public final class SolvingTest {
         placedPositions();
         guesses();
         superfluous();
+        twentySolutions();
         possible();
         needed();
         afterChanges();
@@ -51,10 +52,28 @@ public final class SolvingTest {
             NumberPlace x = Check.desk(puzzle[0], puzzle[1]);
             String name = puzzle[0] + puzzle[1];
             compare(x, name);
+            asPlain(x, puzzle[0], puzzle[1]);
             x.deduce(3);
             compare(x, name + " behind 3 deductions");
             x.deduce(500);
             compare(x, name + " behind all deductions");
+        }
+    }
+
+    /** The first solution in the document's order, and the guesses until it. */
+    private static void asPlain(NumberPlace x, String givens, String constraints) {
+        PlainDesk plain = new PlainDesk();
+        String text = givens + "....................................".substring(givens.length()) + constraints;
+        for (int k = 0; k < text.length(); k++) {
+            plain.append(text.charAt(k));
+        }
+        plain.parse();
+        int due = plain.guesses();
+        if (due != PlainDesk.TOO_DEAR) {
+            check.due("21: as the plain desk, " + text, x.guesses(), due);
+            for (int c = 0; c < 36; c++) {
+                check.due("22: as the plain desk, " + text, x.solved(c), plain.solved(c));
+            }
         }
     }
 
@@ -195,6 +214,17 @@ public final class SolvingTest {
         check.due("20: and counts them", y.solutions(20), all);
     }
 
+    private static void twentySolutions() {
+        NumberPlace x = Check.desk(".....6.5..23...56.5...3..4.6.....3.5", "");
+        check.due("20: twenty", new Backtrack(x, 50).found, 20);
+        check.due("20: twenty", x.solutions(20), 20);
+        check.due("23: twenty", x.superfluous(), 89);
+        NumberPlace y = Check.desk("12.4........2..5..5.1.3....61..1....", "");
+        check.due("20: twenty-one", new Backtrack(y, 50).found, 21);
+        check.due("20: twenty of them", y.solutions(20), 20);
+        check.due("23: twenty-one", y.superfluous(), -1);
+    }
+
     private static void possible() {
         NumberPlace x = Check.desk("123456", "");
         check.due("24: given", x.possible(0, 1), true);
@@ -254,6 +284,9 @@ public final class SolvingTest {
         check.due("22: still", x.solved(0), 6);
         x.make(1, 36);
         check.due("20: make", x.solutions(20), 1);
+        check.due("23: make", x.superfluous(), 0);
+        x.make(5, 0);
+        check.due("23: nothing is left of the solution before", x.superfluous(), x.count(3) - 36);
         x.begin();
         check.due("20: begin", x.solutions(20), 20);
     }

@@ -4,6 +4,7 @@ public final class StateTest {
 
     public static void main(String[] args) {
         undoOfEach();
+        logIsUndone();
         fourStates();
         digest();
         textIsNotUndone();
@@ -36,6 +37,21 @@ public final class StateTest {
             check.due("30: " + name + " changes nothing", x.digest(), before);
         }
         check.due("29: states", x.undo(), 1);
+    }
+
+    private static void logIsUndone() {
+        NumberPlace x = Check.desk("12....", ";k8:20:21:22;t:30:31");
+        x.deduce(2);
+        long before = x.digest();
+        x.restart();
+        x.give(35, 4);
+        x.deduce(3);
+        check.due("29: another log", x.step(0, 1) + x.step(1, 1) + x.step(2, 1), 36);
+        x.undo();
+        x.undo();
+        check.due("29: undo of restart", x.undo(), 1);
+        x.deduce(0);
+        check.due("29: the log of before", x.digest(), before);
     }
 
     private static void fourStates() {

@@ -180,6 +180,16 @@ public final class TextTest {
         x.deduce(500);
         check.due("28: at its beginning again", x.parse(), 3);
         check.due("28: candidates again", x.count(3), 3 + 33 * 6);
+        check.due("28: constraints again", x.count(0), 3);
+        x.clearText();
+        Check.write(x, "..3;t:0:1");
+        check.due("28: an error in between", x.parse(), -10 - 3);
+        x.clearText();
+        Check.write(x, "." + DOTS.substring(1) + ";t:7:8");
+        check.due("28: another puzzle", x.parse(), 0);
+        check.due("28: nothing of the old givens", x.count(3), 216);
+        check.due("28: nothing of the old constraints", x.count(0), 1);
+        check.due("13: nothing of the old peers", x.cell(35, 2), 12);
         NumberPlace y = Check.desk("11", "");
         check.due("28: two equal givens", y.count(1), 2);
         check.due("28: no peers are struck", y.candidates(1), 2);

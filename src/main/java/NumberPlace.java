@@ -82,7 +82,6 @@ public final class NumberPlace {
         now.log.wipe();
         int index = now.rules.add(kind, sum);
         now.rules.attach(index, cell);
-        now.position.touched = ALL_CELLS;
         return index;
     }
 
