@@ -54,7 +54,7 @@ public final class CompareTest {
         int roll = random.nextInt(10);
         if (name.equals("begin") && roll > 2 || name.equals("make") && roll > 0
                 || name.equals("parse") && roll > 2 || name.equals("needed") && roll > 0
-                || name.equals("undo") && roll > 6 || name.equals("clearText") && roll > 2) {
+                || name.equals("undo") && roll > 8 || name.equals("clearText") && roll > 2) {
             name = "digest";
         }
         boolean solves = "solutions guesses solved superfluous possible".contains(name);
@@ -109,6 +109,12 @@ public final class CompareTest {
                 break;
             case "append":
                 call(name, near(0, 127), 0, 0);
+                break;
+            case "undo":
+                for (int k = random.nextInt(4); k >= 0; k--) {
+                    call(name, 0, 0, 0);
+                    call("digest", 0, 0, 0);
+                }
                 break;
             default:
                 call(name, cell, digit, 0);

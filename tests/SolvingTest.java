@@ -1,3 +1,5 @@
+import java.util.Random;
+
 /** Promises 20 to 25: solutions, guesses, and what follows from all solutions. */
 public final class SolvingTest {
     private static final Check check = new Check();
@@ -5,6 +7,7 @@ public final class SolvingTest {
     public static void main(String[] args) {
         emptyGrid();
         bruteForce();
+        struckPositions();
         noSolution();
         solvedByDeductions();
         placedPositions();
@@ -120,6 +123,30 @@ public final class SolvingTest {
             check.due("22: a solution, " + name, new Backtrack(y, 2).found, 1);
         }
         check.due("21: none or some, " + name, x.guesses() >= 0, plain.found > 0);
+    }
+
+    /** Positions from which many candidates were struck, so that few solutions or none are left. */
+    private static void struckPositions() {
+        Random random = new Random(11);
+        for (int n = 0; n < 400; n++) {
+            NumberPlace x = new NumberPlace();
+            int struck = 60 + random.nextInt(70);
+            for (int k = 0; k < struck; k++) {
+                int cell = random.nextInt(36);
+                int digit = random.nextInt(6) + 1;
+                boolean inGrid = (3 * (cell / 6 % 2) + cell / 12 + cell % 6) % 6 + 1 == digit;
+                if (!inGrid || n % 3 == 0 && k == 5) {
+                    x.strike(cell, digit);
+                }
+            }
+            Backtrack plain = new Backtrack(x, 21);
+            check.due("20: struck position " + n, x.solutions(20), Math.min(20, plain.found));
+            int unseen = 0;
+            for (int c = 0; c < 36; c++) {
+                unseen += Integer.bitCount(x.candidates(c) & ~plain.seen[c]);
+            }
+            check.due("23: struck position " + n, x.superfluous(), plain.found > 20 ? -1 : unseen);
+        }
     }
 
     private static void noSolution() {

@@ -41,15 +41,19 @@ public final class StateTest {
 
     private static void logIsUndone() {
         NumberPlace x = Check.desk("12....", ";k8:20:21:22;t:30:31");
-        x.deduce(2);
+        x.deduce(1);
+        x.deduce(1);
         long before = x.digest();
-        x.restart();
+        x.begin();
         x.give(35, 4);
-        x.deduce(3);
-        check.due("29: another log", x.step(0, 1) + x.step(1, 1) + x.step(2, 1), 36);
+        x.deduce(2);
+        check.due("29: another log", x.step(0, 1), 35);
         x.undo();
         x.undo();
-        check.due("29: undo of restart", x.undo(), 1);
+        check.due("29: undo of begin", x.undo(), 1);
+        check.due("29: the first deduction of before", x.step(0, 1), 0);
+        check.due("29: the second deduction of before", x.step(1, 1), 1);
+        x.deduce(0);
         x.deduce(0);
         check.due("29: the log of before", x.digest(), before);
     }
