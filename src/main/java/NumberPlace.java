@@ -470,8 +470,11 @@ public final class NumberPlace {
             System.arraycopy(other.peers, 0, peers, 0, CELLS);
         }
 
-        /** Adds a constraint without cells; the caller has looked that there is room. */
+        /** Adds a constraint without cells; NONE if there is no room. */
         int add(int kind, int sum) {
+            if (size >= MOST_CONSTRAINTS) {
+                return NONE;
+            }
             int index = size;
             kinds[index] = kind;
             sums[index] = sum;
@@ -482,6 +485,9 @@ public final class NumberPlace {
         }
 
         void attach(int index, int cell) {
+            if (index < 0 || index >= size || isFull(index)) {
+                return;
+            }
             cells[index * ROW + sizes[index]] = cell;
             sizes[index]++;
             areas[index] |= 1L << cell;
@@ -1211,8 +1217,10 @@ public final class NumberPlace {
         private int error;
 
         void add(int value) {
-            bytes[length] = value;
-            length++;
+            if (length < MOST) {
+                bytes[length] = value;
+                length++;
+            }
         }
 
         /** Reads the whole text; the position of the syntax error, NONE if there is none. */
