@@ -4,6 +4,7 @@ final class Check {
         long run();
     }
 
+    private static final int MOST_TOLD = 40;
     private int wrong = 0;
     private int asked = 0;
 
@@ -11,7 +12,9 @@ final class Check {
         asked++;
         if (got != want) {
             wrong++;
-            System.out.println(what + " answered " + got + ", due is " + want);
+            if (wrong <= MOST_TOLD) {
+                System.out.println(what + " answered " + got + ", due is " + want);
+            }
         }
     }
 
@@ -46,6 +49,18 @@ final class Check {
 
     void state(NumberPlace x, String what, Call call) {
         refused(x, what, IllegalStateException.class, call);
+    }
+
+    void same(String what, String got, String want) {
+        asked++;
+        if (!got.equals(want)) {
+            wrong++;
+            System.out.println(what + " " + got + ", due is " + want);
+        }
+    }
+
+    boolean isGood() {
+        return asked > 0 && wrong == 0;
     }
 
     void end() {

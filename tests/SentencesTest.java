@@ -1,0 +1,103 @@
+import java.io.IOException;
+import java.lang.reflect.InvocationTargetException;
+import java.lang.reflect.Method;
+import java.nio.file.Paths;
+import java.util.Arrays;
+import java.util.Comparator;
+import java.util.regex.Matcher;
+import java.util.regex.Pattern;
+
+/**
+ * Runs a test for each sentence of the document. A test is named after the head of the description
+ * or the promise that its sentence belongs to, and quotes its words; no word may be left unquoted.
+ * With arguments only the tests whose names begin with one of them are run.
+ */
+public final class SentencesTest {
+    private static final Class<?>[] TESTS = {
+        GridSentences.class, ConstraintSentences.class, DeductionSentences.class, SolvingSentences.class,
+        TextSentences.class, UndoSentences.class, PuzzlePromises.class, ReadingPromises.class,
+        DeductionPromises.class, SolvingPromises.class, TextPromises.class, StatePromises.class};
+    private static final Pattern NAME = Pattern.compile("([a-z]+?)(Text)?(\\d\\d)?_\\w+");
+
+    private static int run = 0;
+    private static int failed = 0;
+
+    public static void main(String[] args) throws IOException {
+        Document document = new Document(Paths.get("../shared/DOC.md"));
+        for (Class<?> tests : TESTS) {
+            Method[] methods = tests.getDeclaredMethods();
+            Arrays.sort(methods, Comparator.comparing(Method::getName));
+            for (Method method : methods) {
+                Sentence sentence = method.getAnnotation(Sentence.class);
+                if (sentence != null) {
+                    quote(document, method.getName(), sentence.value());
+                    if (isAsked(method.getName(), args)) {
+                        runOne(method);
+                    }
+                }
+            }
+        }
+        for (String words : document.unquoted()) {
+            failed++;
+            System.out.println("no test quotes: " + words);
+        }
+        System.out.println(run + " sentences looked at, " + failed + " failed");
+        if (failed != 0 || run == 0) {
+            System.exit(1);
+        }
+    }
+
+    private static boolean isAsked(String name, String[] beginnings) {
+        for (String beginning : beginnings) {
+            if (name.startsWith(beginning)) {
+                return true;
+            }
+        }
+        return beginnings.length == 0;
+    }
+
+    /** promise03_give belongs to "Promise 3", puzzleText_end to "Puzzle text", undo_four to "Undo". */
+    private static String sectionOf(String name) {
+        Matcher m = NAME.matcher(name);
+        if (!m.matches()) {
+            return name;
+        }
+        String head = m.group(1).substring(0, 1).toUpperCase() + m.group(1).substring(1);
+        if (m.group(3) != null) {
+            return head + " " + Integer.parseInt(m.group(3));
+        }
+        return m.group(2) != null ? head + " text" : head;
+    }
+
+    private static void quote(Document document, String name, String[] quotes) {
+        for (String words : quotes) {
+            if (!document.quote(sectionOf(name), words)) {
+                failed++;
+                System.out.println(name + " quotes what the document does not say there: " + words);
+            }
+        }
+    }
+
+    private static void runOne(Method method) {
+        Check check = new Check();
+        long start = System.nanoTime();
+        boolean good = false;
+        try {
+            method.setAccessible(true);
+            method.invoke(null, check);
+            good = check.isGood();
+        } catch (InvocationTargetException e) {
+            e.getCause().printStackTrace(System.out);
+        } catch (IllegalAccessException e) {
+            System.out.println(e);
+        }
+        run++;
+        if (System.getProperty("times") != null) {
+            System.out.println((System.nanoTime() - start) / 1000000 + " ms " + method.getName());
+        }
+        if (!good) {
+            failed++;
+            System.out.println("FAIL " + method.getName());
+        }
+    }
+}
