@@ -8,7 +8,7 @@ public final class CompareTest {
 
     public static void main(String[] args) {
         int first = args.length > 0 ? Integer.parseInt(args[0]) : 1;
-        int runs = args.length > 1 ? Integer.parseInt(args[1]) : 60;
+        int runs = args.length > 1 ? Integer.parseInt(args[1]) : 200;
         for (int run = first; run < first + runs && wrong < 20; run++) {
             new CompareTest(run).play();
         }
@@ -32,8 +32,8 @@ public final class CompareTest {
 
     private void play() {
         int style = run % 4;
-        while (calls < 500 && wrong < 20) {
-            if (random.nextInt(12) == 0 && style != 3) {
+        while (calls < 480 && wrong < 20) {
+            if (random.nextInt(40) == 0 && style != 3 && calls < 350) {
                 write();
             } else if (random.nextInt(6) == 0) {
                 draw();
@@ -166,8 +166,6 @@ public final class CompareTest {
         if (random.nextInt(6) == 0) {
             b.setLength(random.nextInt(b.length() + 1));
         }
-        // Appending does nothing but lengthen the text; it would use up the calls that are promised.
-        calls -= b.length();
         for (int k = 0; k < b.length(); k++) {
             call("append", b.charAt(k), 0, 0);
         }

@@ -19,7 +19,6 @@ public final class DeductionTest {
         order();
         deadPosition();
         steps();
-        longLog();
         stepRefusals();
         needs();
         check.end();
@@ -291,41 +290,6 @@ public final class DeductionTest {
         check.due("14: as before", x.digest(), before);
         check.argument(x, "14: steps -1", () -> x.deduce(-1));
         check.argument(x, "14: steps 501", () -> x.deduce(501));
-    }
-
-    /** A puzzle with more than a hundred deductions: the oldest ones leave the log. */
-    private static void longLog() {
-        NumberPlace x = Check.desk("",
-                ";t:0:15;k16:23:26:33:19;k12:23:22:27:20;a:9:25;k12:22:28:35;a:34:33:2;k7:25:31;k9:12:30:25");
-        int[] struck = {49, 19, 138, 178, 100, 32, 200, 11, 7, 34, 73, 93, 23, 87, 174, 111, 170, 192, 52,
-            122, 116, 127, 156, 197, 14, 204, 60, 212, 72, 70, 140, 179, 32, 102, 46, 129, 214, 86, 120};
-        for (int k : struck) {
-            x.strike(k / 6, k % 6 + 1);
-        }
-        int[][] done = new int[300][2];
-        int n = 0;
-        while (x.hint() != 0 && n < 300) {
-            done[n][0] = x.hint();
-            done[n][1] = x.hintPlace();
-            x.deduce(1);
-            n++;
-            check.due("17: logged", x.logged(), Math.min(n, 100));
-        }
-        check.due("17: more than a hundred", n > 100, true);
-        for (int k = 0; k < 100; k++) {
-            check.due("18: kind " + k, x.step(k, 0), done[n - 100 + k][0]);
-            check.due("18: place " + k, x.step(k, 1), done[n - 100 + k][1]);
-        }
-        check.index(x, "18: index 100", () -> x.step(100, 0));
-        long before = x.digest();
-        x.strike(0, 1);
-        check.due("17: emptied", x.logged(), 0);
-        x.deduce(500);
-        x.undo();
-        x.undo();
-        x.deduce(0);
-        x.deduce(0);
-        check.due("18: the full log is back", x.digest(), before);
     }
 
     private static void stepRefusals() {

@@ -64,15 +64,14 @@ final class DeductionPromises {
     @Sentence({"Returns the kind of the next deduction, without doing it.", "Returns 1 to 7;"})
     static void promise15_hint(Check check) {
         int seen = 0;
-        for (NumberPlace x : new NumberPlace[] {puzzle(), SolvingSentences.longWay()}) {
-            for (int k = 0; k < 80 && x.hint() != 0; k++) {
-                long before = x.digest();
-                int kind = x.hint();
-                check.due("without doing it", x.digest(), before);
-                x.deduce(1);
-                check.due("the kind that is done", x.step(x.logged() - 1, 0), kind);
-                seen |= 1 << kind;
-            }
+        for (int k = 0; k < 100; k++) {
+            NumberPlace x = SolvingSentences.longWay();
+            x.deduce(k);
+            long before = x.digest();
+            int kind = x.hint();
+            check.due("without doing it", x.digest(), before);
+            x.deduce(1);
+            check.due("the kind that is done", x.step(k, 0), kind);
         }
         for (int kind = 1; kind <= 7; kind++) {
             NumberPlace x = ofKind(kind);
@@ -128,14 +127,14 @@ final class DeductionPromises {
 
     @Sentence({"Returns the place of the next deduction, as in the log.", "Returns the place;"})
     static void promise16_hintPlace(Check check) {
-        for (NumberPlace x : new NumberPlace[] {puzzle(), SolvingSentences.longWay()}) {
-            for (int k = 0; k < 80 && x.hint() != 0; k++) {
-                long before = x.digest();
-                int place = x.hintPlace();
-                check.due("without doing it", x.digest(), before);
-                x.deduce(1);
-                check.due("the place in the log", x.step(x.logged() - 1, 1), place);
-            }
+        for (int k = 0; k < 100; k++) {
+            NumberPlace x = SolvingSentences.longWay();
+            x.deduce(k);
+            long before = x.digest();
+            int place = x.hintPlace();
+            check.due("without doing it", x.digest(), before);
+            x.deduce(1);
+            check.due("the place in the log", x.step(k, 1), place);
         }
         int[] places = {0, 21, 0, 0, 0, 0, 0, 8};
         for (int kind = 1; kind <= 7; kind++) {

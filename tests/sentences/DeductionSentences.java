@@ -654,6 +654,20 @@ final class DeductionSentences {
         Check.strikeAll(x, 9, 5, 6);
         next(check, x, "a second pair of the unit", 7, 1, 4);
         check.due("3 and 4 went", x.candidates(7) & x.candidates(10), 32 + 64);
+        for (int unit = 0; unit < 18; unit++) {
+            int[] cells = Geometry.unit(unit);
+            NumberPlace one = new NumberPlace();
+            Check.strikeAll(one, cells[1], 3, 4, 5, 6);
+            Check.strikeAll(one, cells[5], 3, 4, 5, 6);
+            Check.strikeAll(one, cells[0], 1, 2);
+            Check.strikeAll(one, cells[2], 1, 2);
+            Check.strikeAll(one, cells[3], 1, 2);
+            Check.strikeAll(one, cells[4], 2);
+            while (one.hint() == 6) {
+                one.deduce(1);
+            }
+            next(check, one, "just one candidate in unit " + unit, 7, unit, 1);
+        }
     }
 
     @Sentence("A dead position has no deductions.")

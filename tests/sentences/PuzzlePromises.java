@@ -218,6 +218,29 @@ final class PuzzlePromises {
         }
     }
 
+    /** Nor has it an effect where others have one, or where others stood before. */
+    @Sentence("(A constraint with fewer than 2 cells has no effect.)")
+    static void promise05_noEffectBesideOthers(Check check) {
+        for (int kind = 0; kind <= 2; kind++) {
+            NumberPlace x = Check.desk("", ";t:20:27;k11:3:10;a:14:21:28");
+            int others = Check.desk("", ";t:20:27;k11:3:10;a:14:21:28").deduce(500);
+            for (int k = 0; k < 3; k++) {
+                x.addConstraint(kind, 31, kind == 0 ? 24 : 0);
+            }
+            check.due("the others' deductions only", x.deduce(500), others);
+            check.due("its cell has all candidates", x.candidates(31), 126);
+            NumberPlace y = Check.desk("", ";t:20:27;k11:3:10;a:14:21:28;t:4:11;k3:0:9;a:6:13:24");
+            y.deduce(1);
+            y.begin();
+            for (int k = 0; k < 6; k++) {
+                y.addConstraint(kind, 31, kind == 0 ? 24 : 0);
+            }
+            y.strike(31, 3);
+            check.due("where others stood before", y.hint(), 0);
+            check.due("and were to be looked at", y.deduce(500), 0);
+        }
+    }
+
     @Sentence("Returns the number of the constraint.")
     static void promise05_answer(Check check) {
         NumberPlace x = new NumberPlace();
@@ -535,6 +558,18 @@ final class PuzzlePromises {
                 check.due("left of seed " + seed, left, count);
                 check.due("undo", x.undo(), 0);
                 check.due("nothing is given", x.count(1), 0);
+            }
+        }
+    }
+
+    @Sentence("Makes a puzzle without constraints.")
+    static void promise08_manyOnOneDesk(Check check) {
+        NumberPlace x = new NumberPlace();
+        for (int seed = 0; seed < 12; seed++) {
+            NumberPlace y = new NumberPlace();
+            check.due("as many as on a new desk", x.make(seed, seed), y.make(seed, seed));
+            for (int cell = 0; cell < 36; cell++) {
+                check.due("as on a new desk " + cell, x.cell(cell, 1), y.cell(cell, 1));
             }
         }
     }

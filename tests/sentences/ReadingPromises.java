@@ -2,7 +2,7 @@
 final class ReadingPromises {
     private static final int[] NO_CELLS = {-1, 36, 37, -36, Integer.MIN_VALUE, Integer.MAX_VALUE};
     private static final int[] NO_CONSTRAINTS = {-1, 4, 5, 8, Integer.MIN_VALUE, Integer.MAX_VALUE};
-    private static final int[][] BUSY = {{20, 21, 22}, {30, 31}, {2, 14}, {27, 28}};
+    private static final int[][] BUSY = {{20, 21, 28}, {30, 31}, {2, 15}, {27, 28}};
 
     @Sentence({"Returns something about a constraint.", "Returns that value.",
         "- `what`: 0 its kind, 1 its sum (0 if it is no cage), 2 the number of its cells"})

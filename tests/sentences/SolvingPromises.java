@@ -30,6 +30,97 @@ final class SolvingPromises {
         }
     }
 
+    /** Puzzles with few solutions, most of which come by guesses at where a digit goes. */
+    private static final Object[][] FEW = {
+        {5, ".2...............1..12............4.", ";a:26:20:25;k10:5:11:16;a:2:7:0"},
+        {15, ".....6..............................", ";t:31:30:32:25;a:13:8:12;a:20:14:15;k17:20:15:21:26"},
+        {17, "1.........2...4.......3.........2.45", ";k15:12:6:13:19"},
+        {4, "", ";a:27:34:33:22;t:31:24:19;a:19:14:12;k4:0:1;a:17:16:9;k9:26:19;k12:5:4:10"},
+        {6, ".....6..6.....................6.....", ";t:18:12:19;a:26:27:22:21;a:9:10:3"},
+        {11, ".2.......1....4................1....", ";t:22:17:11:16:15;t:31:30;t:8:14:7"},
+        {6, "........61..2.........3.3...........", ";a:32:27:33;a:4:11:17;t:27:20"},
+        {18, "...............5...6.23.....1.......", ";t:9:2:3;t:32:31:30:24;a:6:7:0"},
+        {16, ".............3............5.........", ";a:33:34:27;a:9:16;a:8:3:14;a:28:23;t:5:4:11;t:15:22"},
+        {12, ".......56......5........3..6.......5", ";a:14:21;k15:23:28:35:22"},
+        {6, "12.4..45.........1.....4...6....2.4.", ";k10:22:15:10"},
+        {14, ".........12..3..................23.5", ";t:7:6:0;t:28:27:20"},
+        {4, "..............456......4..5......3..", ";a:6:12:0:1;k11:21:14:7"},
+        {9, "...4...........5..5...3.3........3..", ";t:21:27;t:17:22;t:8:2:1;t:30:31:25"},
+        {3, "...................6..3...5.........", ";t:2:9:16:23;t:5:10:11;a:33:32:26;a:24:30:31"},
+        {7, "...45....1......6....23.....1..12...", ";k12:12:6:1"}};
+
+    @Sentence("Counts the solutions of the present position.")
+    static void promise20_fewSolutions(Check check) {
+        for (int k = 0; k < FEW.length; k++) {
+            Object[] puzzle = FEW[k];
+            Backtrack plain = new Backtrack(desk(puzzle), 50);
+            int all = (int) puzzle[0];
+            check.due("by plain backtracking", plain.found, all);
+            check.due("by the desk, " + puzzle[1] + puzzle[2], desk(puzzle).solutions(20), all);
+            NumberPlace many = desk(FEW[(k + 5) % FEW.length]);
+            many.superfluous();
+            many.clearText();
+            Check.write(many, (puzzle[1] + Desks.DOTS).substring(0, 36) + puzzle[2]);
+            many.parse();
+            int unseen = 0;
+            for (int cell = 0; cell < 36; cell++) {
+                unseen += Integer.bitCount(many.candidates(cell) & ~plain.seen[cell]);
+            }
+            check.due("superfluous on a desk that solved another one, " + puzzle[1] + puzzle[2], many.superfluous(), unseen);
+            NumberPlace x = desk(puzzle);
+            for (int cell = 0; cell < 36; cell += 5) {
+                for (int digit = 1; digit <= 6; digit++) {
+                    check.due(digit + " in " + cell, x.possible(cell, digit), (plain.seen[cell] >> digit & 1) != 0);
+                }
+            }
+            check.due("some candidates are right", x.guesses() >= 0, true);
+        }
+    }
+
+    /** Whatever was asked before, an answer is about the position of now. */
+    @Sentence("of the present position.")
+    static void promise20_askedBeforeAChange(Check check) {
+        Object[][] calls = {{"begin", 0, 0, 0}, {"give", 8, 4, 0}, {"strike", 8, 5, 0}, {"addConstraint", 2, 8, 0},
+            {"extend", 3, 34, 0}, {"restart", 0, 0, 0}, {"make", 1, 20, 0}, {"deduce", 9, 0, 0}, {"parse", 0, 0, 0},
+            {"undo", 0, 0, 0}};
+        for (Object[] call : calls) {
+            Readings.alike(check, "asked before " + call[0], () -> {
+                NumberPlace x = Desks.busy();
+                askAll(x);
+                Script.program(x, (String) call[0], (int) call[1], (int) call[2], (int) call[3]);
+                return x;
+            }, () -> {
+                NumberPlace x = Desks.busy();
+                Script.program(x, (String) call[0], (int) call[1], (int) call[2], (int) call[3]);
+                return x;
+            });
+            Readings.alike(check, "asked before the undo of " + call[0], () -> {
+                NumberPlace x = Desks.busy();
+                Script.program(x, (String) call[0], (int) call[1], (int) call[2], (int) call[3]);
+                askAll(x);
+                Script.program(x, "undo", 0, 0, 0);
+                return x;
+            }, () -> {
+                NumberPlace x = Desks.busy();
+                Script.program(x, (String) call[0], (int) call[1], (int) call[2], (int) call[3]);
+                Script.program(x, "undo", 0, 0, 0);
+                return x;
+            });
+        }
+        check.due("the desk has solutions", Desks.busy().solutions(20) > 1, true);
+        check.due("and guesses", Desks.busy().guesses() > 0, true);
+    }
+
+    private static void askAll(NumberPlace x) {
+        x.superfluous();
+        x.solutions(20);
+        x.guesses();
+        x.solved(0);
+        x.possible(0, 1);
+        x.needed();
+        x.hint();
+    }
+
     @Sentence("of the present position.")
     static void promise20_presentPosition(Check check) {
         NumberPlace x = Check.desk(".....6.5..23...56.5...3..4.6.....3.5", "");
@@ -275,24 +366,27 @@ final class SolvingPromises {
         for (int givens = 0; givens <= 24; givens += 4) {
             NumberPlace x = new NumberPlace();
             int left = x.make(77, givens);
-            int due = 0;
-            for (int cell = 0; cell < 36; cell++) {
-                if (x.cell(cell, 1) != 0) {
-                    due += withoutGiven(x, cell) > 1 ? 1 : 0;
-                }
-            }
-            check.due("with " + left + " givens", x.needed(), due);
+            check.due("with " + left + " givens", x.needed(), neededBy(x));
         }
     }
 
-    private static int withoutGiven(NumberPlace x, int without) {
-        NumberPlace y = new NumberPlace();
+    /** The givens without each of which there are several solutions, by plain backtracking. */
+    private static int neededBy(NumberPlace x) {
+        int[] given = new int[36];
         for (int cell = 0; cell < 36; cell++) {
-            if (cell != without && x.cell(cell, 1) != 0) {
-                y.give(cell, x.cell(cell, 1));
-            }
+            given[cell] = x.cell(cell, 1);
         }
-        return new Backtrack(y, 2).found;
+        int needed = 0;
+        for (int without = 0; without < 36; without++) {
+            NumberPlace y = new NumberPlace();
+            for (int cell = 0; cell < 36; cell++) {
+                if (cell != without && given[cell] != 0) {
+                    y.give(cell, given[cell]);
+                }
+            }
+            needed += given[without] != 0 && new Backtrack(y, 2).found > 1 ? 1 : 0;
+        }
+        return needed;
     }
 
     @Sentence("(each one alone)")
@@ -321,11 +415,7 @@ final class SolvingPromises {
         }
         int digit = one.get().solved(wrong);
         x.give(wrong, digit);
-        int due = 0;
-        for (int cell = 0; cell < 36; cell++) {
-            due += x.cell(cell, 1) != 0 && withoutGiven(x, cell) > 1 ? 1 : 0;
-        }
-        check.due("one more given", x.needed(), due);
+        check.due("one more given", x.needed(), neededBy(x));
         check.due("no solution with the constraints", Check.desk("11", ";a:34:35").needed(), 0);
     }
 

@@ -213,6 +213,29 @@ final class SolvingSentences {
         check.due("as before", x.digest(), before);
     }
 
+    @Sentence("The latest 100 deductions are kept")
+    static void log_wholeComesBack(Check check) {
+        String other = Desks.DOTS.substring(0, 6) + "6" + Desks.DOTS.substring(7)
+                + ";k7:34:7;k10:10:35:14;a:35:18:4:27;a:6:24:15;k11:7:4:5;k6:30:13;a:16:24:19;a:4:3";
+        for (int steps : new int[] {50, 99, 100, 101, 102}) {
+            NumberPlace due = longWay();
+            due.deduce(steps);
+            NumberPlace x = longWay();
+            x.deduce(steps);
+            x.clearText();
+            Check.write(x, other);
+            x.parse();
+            check.due("another long log", x.deduce(500), 96);
+            x.undo();
+            x.undo();
+            check.due("as many as before", x.logged(), due.logged());
+            for (int k = 0; k < due.logged(); k++) {
+                check.due("kind of " + k, x.step(k, 0), due.step(k, 0));
+                check.due("place of " + k, x.step(k, 1), due.step(k, 1));
+            }
+        }
+    }
+
     @Sentence({"each with its kind, its place (1: the cell; 2 and 7: the unit; 3 to 5: the constraint; 6: the box, 0 to"
         + " 5), and the number of candidates that were removed (1: from peers)."})
     static void log_placesOfEachKind(Check check) {

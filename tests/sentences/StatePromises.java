@@ -1,6 +1,7 @@
 import java.math.BigInteger;
 import java.util.ArrayList;
 import java.util.List;
+import java.util.function.Supplier;
 
 /** Promises 29 and 30: undo and the digest. */
 final class StatePromises {
@@ -79,10 +80,11 @@ final class StatePromises {
         check.due("nothing undoable was called", Script.program(x, "undo", 0, 0, 0), Script.STATE);
     }
 
-    /** The values that the document lists, in its order. */
-    private static List<Long> values(NumberPlace x, int length, int saved) {
+    /** The values that the document lists, in its order; a desk is made anew for a part of them. */
+    private static List<Long> values(Supplier<NumberPlace> desk, int length, int saved) {
         List<Long> v = new ArrayList<>();
         v.add((long) length);
+        NumberPlace x = desk.get();
         for (int what = 0; what <= 5; what++) {
             v.add((long) x.count(what));
         }
@@ -91,21 +93,27 @@ final class StatePromises {
             v.add((long) x.cell(cell, 0));
             v.add((long) x.cell(cell, 1));
         }
-        for (int i = 0; i < x.count(0); i++) {
+        x = desk.get();
+        int constraints = x.count(0);
+        for (int i = 0; i < constraints; i++) {
             for (int what = 0; what <= 2; what++) {
                 v.add((long) x.constraint(i, what));
             }
-            for (int place = 0; place < x.constraint(i, 2); place++) {
+            int cells = x.constraint(i, 2);
+            for (int place = 0; place < cells; place++) {
                 v.add((long) x.cellOf(i, place));
             }
         }
-        v.add((long) x.logged());
-        for (int k = 0; k < x.logged(); k++) {
+        int hint = x.hint();
+        x = desk.get();
+        int logged = x.logged();
+        v.add((long) logged);
+        for (int k = 0; k < logged; k++) {
             for (int what = 0; what <= 2; what++) {
                 v.add((long) x.step(k, what));
             }
         }
-        v.add((long) x.hint());
+        v.add((long) hint);
         v.add((long) saved);
         return v;
     }
@@ -125,20 +133,23 @@ final class StatePromises {
         + " and, for each deduction in the log, the values of step() for what = 0 to 2; hint(); the number of saved"
         + " states.", "Returns the hash, with the overflow of long arithmetic ignored."})
     static void promise30_digest(Check check) {
-        NumberPlace x = new NumberPlace();
-        check.due("new", x.digest(), hash(values(x, 0, 0)));
-        x = Desks.busy();
-        check.due("busy", x.digest(), hash(values(x, 36 + 27, 4)));
-        x = Desks.full();
-        check.due("full", x.digest(), hash(values(x, 150, 4)));
-        x = Desks.dead();
-        check.due("dead", x.digest(), hash(values(x, 36 + 8, 4)));
-        x = Desks.solved();
-        check.due("solved", x.digest(), hash(values(x, 0, 2)));
-        NumberPlace y = SolvingSentences.longWay();
-        y.deduce(500);
-        check.due("a full log", y.logged(), 100);
-        check.due("a full log", y.digest(), hash(values(y, 36 + SolvingSentences.LONG_WAY.length(), 4)));
+        digest(check, "new", NumberPlace::new, 0, 0);
+        digest(check, "busy", Desks::busy, 36 + 27, 4);
+        digest(check, "full", Desks::full, 150, 4);
+        digest(check, "dead", Desks::dead, 36 + 8, 4);
+        digest(check, "solved", Desks::solved, 0, 2);
+        int length = 36 + SolvingSentences.LONG_WAY.length();
+        for (int steps : new int[] {0, 1, 99, 100, 101, 500}) {
+            digest(check, "a log of " + steps, () -> {
+                NumberPlace x = SolvingSentences.longWay();
+                x.deduce(steps);
+                return x;
+            }, length, 4);
+        }
+    }
+
+    private static void digest(Check check, String what, Supplier<NumberPlace> desk, int length, int saved) {
+        check.due(what, desk.get().digest(), hash(values(desk, length, saved)));
     }
 
     @Sentence("the length of the text; count() for 0 to 5;")
@@ -150,7 +161,7 @@ final class StatePromises {
             check.due("length " + length, x.digest() != last, true);
             last = x.digest();
         }
-        check.due("the bytes do not count", x.digest(), hash(values(x, 150, 0)));
+        check.due("the bytes do not count", x.digest(), hash(values(NumberPlace::new, 150, 0)));
         x.clearText();
         check.due("no text", x.digest(), new NumberPlace().digest());
     }

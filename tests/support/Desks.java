@@ -4,9 +4,9 @@ final class Desks {
 
     /** With a text, givens, constraints of every kind, struck cells, a log and four saved states. */
     static NumberPlace busy() {
-        NumberPlace x = Check.desk("12....3", ";k8:20:21:22;t:30:31;a:2:14");
+        NumberPlace x = Check.desk("12....3", ";k8:20:21:28;t:30:31;a:2:15");
         x.strike(35, 1);
-        x.give(9, 4);
+        x.give(10, 4);
         x.addConstraint(0, 27, 5);
         x.extend(3, 28);
         x.strike(34, 2);
@@ -24,7 +24,7 @@ final class Desks {
         x.addConstraint(0, 0, 14);
         x.addConstraint(1, 12, 0);
         x.addConstraint(2, 35, 0);
-        int[][] more = {{1, 6, 7}, {13, 14, 15}, {34, 33, 32, 31, 30}};
+        int[][] more = {{1, 6, 21}, {13, 14, 15}, {34, 33, 32, 31, 30}};
         for (int i = 0; i < 3; i++) {
             for (int cell : more[i]) {
                 x.extend(i, cell);
