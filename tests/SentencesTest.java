@@ -80,7 +80,6 @@ public final class SentencesTest {
 
     private static void runOne(Method method) {
         Check check = new Check();
-        long start = System.nanoTime();
         boolean good = false;
         try {
             method.setAccessible(true);
@@ -92,9 +91,6 @@ public final class SentencesTest {
             System.out.println(e);
         }
         run++;
-        if (System.getProperty("times") != null) {
-            System.out.println((System.nanoTime() - start) / 1000000 + " ms " + method.getName());
-        }
         if (!good) {
             failed++;
             System.out.println("FAIL " + method.getName());

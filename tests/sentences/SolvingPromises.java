@@ -416,7 +416,36 @@ final class SolvingPromises {
         int digit = one.get().solved(wrong);
         x.give(wrong, digit);
         check.due("one more given", x.needed(), neededBy(x));
-        check.due("no solution with the constraints", Check.desk("11", ";a:34:35").needed(), 0);
+        check.due("no solution with the constraints", Check.desk("1", ";k24:2:9").needed(), 0);
+    }
+
+    @Sentence("the puzzle would have more than one solution,")
+    static void promise25_withItsConstraints(Check check) {
+        for (Object[] puzzle : FEW) {
+            String constraints = (String) puzzle[2];
+            StringBuilder givens = new StringBuilder(((String) puzzle[1] + Desks.DOTS).substring(0, 36));
+            NumberPlace solved = desk(puzzle);
+            int more = 0;
+            while (Check.desk(givens.toString(), constraints).solutions(2) > 1) {
+                int cell = more * 5 % 36;
+                givens.setCharAt(cell, (char) ('0' + solved.solved(cell)));
+                more++;
+            }
+            int due = 0;
+            int given = 0;
+            for (int cell = 0; cell < 36; cell++) {
+                char digit = givens.charAt(cell);
+                givens.setCharAt(cell, '.');
+                if (digit != '.') {
+                    given++;
+                    due += new Backtrack(Check.desk(givens.toString(), constraints), 2).found > 1 ? 1 : 0;
+                }
+                givens.setCharAt(cell, digit);
+            }
+            NumberPlace x = Check.desk(givens.toString(), constraints);
+            check.due("givens of " + givens, x.count(1), given);
+            check.due("needed of " + givens + constraints, x.needed(), due);
+        }
     }
 
     @Sentence("beginning anew with the givens.")

@@ -28,7 +28,7 @@ final class Document {
                 inDescription = line.equals("## Description");
                 Matcher promise = PROMISE.matcher(line);
                 section = promise.matches() ? promise.group(1) : null;
-            } else if (line.startsWith("    public ")) {
+            } else if (line.startsWith("    public ") || line.startsWith("public ")) {
                 signatures.add(line.trim());
             } else if (inDescription && line.equals("The constants:")) {
                 section = "Constants";
