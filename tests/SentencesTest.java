@@ -17,10 +17,10 @@ import java.util.regex.Pattern;
  */
 public final class SentencesTest {
     private static final Class<?>[] TESTS = {
-        GridSentences.class, ConstraintSentences.class, DeductionSentences.class, SolvingSentences.class,
-        TextSentences.class, UndoSentences.class, PuzzlePromises.class, ReadingPromises.class,
+        WhatItIsSentences.class, GridSentences.class, ConstraintSentences.class, DeductionSentences.class,
+        SolvingSentences.class, TextSentences.class, UndoSentences.class, PuzzlePromises.class, ReadingPromises.class,
         DeductionPromises.class, SolvingPromises.class, TextPromises.class, StatePromises.class};
-    private static final Pattern NAME = Pattern.compile("([a-z]+?)(Text)?(\\d\\d)?_\\w+");
+    private static final Pattern NAME = Pattern.compile("([a-zA-Z]+)(\\d\\d)?_\\w+");
 
     private static int run = 0;
     private static int failed = 0;
@@ -82,11 +82,9 @@ public final class SentencesTest {
         if (!m.matches()) {
             return name;
         }
-        String head = m.group(1).substring(0, 1).toUpperCase() + m.group(1).substring(1);
-        if (m.group(3) != null) {
-            return head + " " + Integer.parseInt(m.group(3));
-        }
-        return m.group(2) != null ? head + " text" : head;
+        String words = m.group(1).replaceAll("(?=[A-Z])", " ").toLowerCase();
+        String head = words.substring(0, 1).toUpperCase() + words.substring(1);
+        return m.group(2) == null ? head : head + " " + Integer.parseInt(m.group(2));
     }
 
     private static void quote(Document document, String name, String[] quotes) {

@@ -9,12 +9,12 @@ import java.util.regex.Matcher;
 import java.util.regex.Pattern;
 
 /**
- * The document, cut at the heads of its description ("Undo") and at its promises ("Promise 3"),
- * with a mark at each sign that a test has quoted.
+ * The document, cut at its beginning ("What it is"), at the heads of its description ("Undo") and at
+ * its promises ("Promise 3"), with a mark at each sign that a test has quoted.
  */
 final class Document {
     private static final Pattern HEAD = Pattern.compile("([A-Z][a-z]+(?: text)?)\\. .*");
-    private static final Pattern PROMISE = Pattern.compile("## (Promise \\d+): .*");
+    private static final Pattern PART = Pattern.compile("## (Promise \\d+(?=: )|What it is).*");
 
     private final Map<String, String> texts = new LinkedHashMap<>();
     private final Map<String, boolean[]> quoted = new LinkedHashMap<>();
@@ -26,8 +26,8 @@ final class Document {
         for (String line : Files.readAllLines(path)) {
             if (line.startsWith("#")) {
                 inDescription = line.equals("## Description");
-                Matcher promise = PROMISE.matcher(line);
-                section = promise.matches() ? promise.group(1) : null;
+                Matcher part = PART.matcher(line);
+                section = part.matches() ? part.group(1) : null;
             } else if (line.startsWith("    public ") || line.startsWith("public ")) {
                 signatures.add(line.trim());
             } else if (inDescription && line.equals("The constants:")) {
