@@ -1,6 +1,9 @@
 import java.util.Random;
 
-/** Random runs of 512 calls on the program and on the plain desk: every answer must be the same. */
+/**
+ * Random runs of up to 512 calls on the program and on the plain desk: every answer must be the same.
+ * Some runs make any calls; others solve a puzzle, deduction by deduction, whose cells have few candidates.
+ */
 public final class CompareTest {
     private static int wrong = 0;
     private static int tooDear = 0;
@@ -11,6 +14,7 @@ public final class CompareTest {
         int runs = args.length > 1 ? Integer.parseInt(args[1]) : 200;
         for (int run = first; run < first + runs && wrong < 20; run++) {
             new CompareTest(run).play();
+            new CompareTest(run).solve();
         }
         System.out.println(compared + " answers compared, " + tooDear + " too dear for the plain desk, " + wrong + " wrong");
         if (wrong != 0) {
@@ -42,6 +46,83 @@ public final class CompareTest {
             }
         }
         call("digest", 0, 0, 0);
+    }
+
+    /** Deductions of a puzzle that has a solution, most of them with constraints in it. */
+    private void solve() {
+        int[] digits = fullGrid();
+        for (int k = random.nextInt(30); k > 0 && plain.s.constraints.size() < 8; k--) {
+            drawRight(digits);
+        }
+        int keepOneOf = 1 + random.nextInt(12);
+        for (int cell = 0; cell < 36; cell++) {
+            for (int digit = 1; digit <= 6; digit++) {
+                if (digit != digits[cell] && random.nextInt(keepOneOf) != 0) {
+                    call("strike", cell, digit, 0);
+                }
+            }
+        }
+        askSolving();
+        while (calls < 480 && wrong < 20 && plain.hint() != 0) {
+            call("hint", 0, 0, 0);
+            call("hintPlace", 0, 0, 0);
+            call("deduce", 1, 0, 0);
+            call("step", plain.logged() - 1, 2, 0);
+        }
+        askSolving();
+        call("hint", 0, 0, 0);
+        call("digest", 0, 0, 0);
+    }
+
+    private void askSolving() {
+        call("needs", 1 + random.nextInt(7), 0, 0);
+        call("solutions", 1 + random.nextInt(20), 0, 0);
+        call("guesses", 0, 0, 0);
+        call("solved", random.nextInt(36), 0, 0);
+        call("superfluous", 0, 0, 0);
+        call("possible", random.nextInt(36), 1 + random.nextInt(6), 0);
+    }
+
+    private int[] fullGrid() {
+        int add = random.nextInt(6);
+        int rows = random.nextInt(2);
+        int[] digits = new int[36];
+        for (int cell = 0; cell < 36; cell++) {
+            int row = cell / 6;
+            // Rows of a band may be exchanged.
+            int told = rows == 0 ? row : row % 2 == 0 ? row + 1 : row - 1;
+            digits[cell] = (3 * (told % 2) + told / 2 + cell % 6 + add) % 6 + 1;
+        }
+        return digits;
+    }
+
+    /** A constraint of cells near one another, if the digits of the solution keep it. */
+    private void drawRight(int[] digits) {
+        int size = 2 + random.nextInt(4);
+        int[] cells = new int[size];
+        int cell = random.nextInt(36);
+        long seen = 0;
+        int found = 0;
+        int sum = 0;
+        boolean ascends = true;
+        for (int k = 0; k < size; k++) {
+            cells[k] = cell;
+            seen |= 1L << cell;
+            found |= 1 << digits[cell];
+            sum += digits[cell];
+            ascends = ascends && (k == 0 || digits[cells[k - 1]] < digits[cell]);
+            int row = Math.min(5, Math.max(0, cell / 6 + random.nextInt(3) - 1));
+            cell = 6 * row + Math.min(5, Math.max(0, cell % 6 + random.nextInt(3) - 1));
+        }
+        int kind = ascends ? 2 : size > 4 ? -1 : sum == 2 * digits[cells[0]] ? 1
+                : Integer.bitCount(found) == size && sum <= 24 ? 0 : -1;
+        if (kind >= 0 && Long.bitCount(seen) == size) {
+            int index = plain.s.constraints.size();
+            call("addConstraint", kind, cells[0], kind == 0 ? sum : 0);
+            for (int k = 1; k < size; k++) {
+                call("extend", index, cells[k], 0);
+            }
+        }
     }
 
     private int near(int least, int greatest) {

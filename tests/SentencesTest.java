@@ -18,8 +18,9 @@ import java.util.regex.Pattern;
 public final class SentencesTest {
     private static final Class<?>[] TESTS = {
         WhatItIsSentences.class, GridSentences.class, ConstraintSentences.class, DeductionSentences.class,
-        SolvingSentences.class, TextSentences.class, UndoSentences.class, PuzzlePromises.class, ReadingPromises.class,
-        DeductionPromises.class, SolvingPromises.class, TextPromises.class, StatePromises.class};
+        OrderSentences.class, SolvingSentences.class, TextSentences.class, UndoSentences.class,
+        PuzzlePromises.class, ReadingPromises.class, DeductionPromises.class, SolvingPromises.class,
+        TextPromises.class, StatePromises.class};
     private static final Pattern NAME = Pattern.compile("([a-zA-Z]+)(\\d\\d)?_\\w+");
 
     private static int run = 0;

@@ -427,7 +427,7 @@ final class DeductionSentences {
     }
 
     /** Strikes a digit everywhere in a unit but in the cells that another unit has, too. */
-    private static void lock(NumberPlace x, int unit, int other, int digit) {
+    static void lock(NumberPlace x, int unit, int other, int digit) {
         List<Integer> keep = new ArrayList<>();
         for (int cell : Geometry.unit(other)) {
             keep.add(cell);
