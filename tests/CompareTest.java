@@ -16,7 +16,8 @@ public final class CompareTest {
             new CompareTest(run).play();
             new CompareTest(run).solve();
         }
-        System.out.println(compared + " answers compared, " + tooDear + " too dear for the plain desk, " + wrong + " wrong");
+        System.out.println(compared + " answers compared, " + tooDear + " too dear for the plain desk, "
+                + wrong + " wrong");
         if (wrong != 0) {
             System.exit(1);
         }
@@ -48,14 +49,20 @@ public final class CompareTest {
         call("digest", 0, 0, 0);
     }
 
-    /** Deductions of a puzzle that has a solution, most of them with constraints in it. */
+    /** Deductions of a puzzle; most of them have a solution, and constraints that are kept in it. */
     private void solve() {
         int[] digits = fullGrid();
         for (int k = random.nextInt(30); k > 0 && plain.s.constraints.size() < 8; k--) {
             drawRight(digits);
         }
+        if (random.nextInt(4) == 0) {
+            draw();
+        }
+        if (random.nextInt(3) == 0) {
+            giveMany(digits);
+        }
         int keepOneOf = 1 + random.nextInt(12);
-        for (int cell = 0; cell < 36; cell++) {
+        for (int cell = 0; cell < 36 && plain.count(1) == 0; cell++) {
             for (int digit = 1; digit <= 6; digit++) {
                 if (digit != digits[cell] && random.nextInt(keepOneOf) != 0) {
                     call("strike", cell, digit, 0);
@@ -72,6 +79,19 @@ public final class CompareTest {
         askSolving();
         call("hint", 0, 0, 0);
         call("digest", 0, 0, 0);
+    }
+
+    /** Many of the right digits, a wrong one now and then, and a new beginning with them. */
+    private void giveMany(int[] digits) {
+        int wrongOneOf = 1 + random.nextInt(60);
+        for (int cell = 0; cell < 36; cell++) {
+            if (random.nextInt(3) != 0) {
+                call("give", cell, random.nextInt(wrongOneOf) == 1 ? 1 + random.nextInt(6) : digits[cell], 0);
+            }
+        }
+        askSolving();
+        call("restart", 0, 0, 0);
+        call("needed", 0, 0, 0);
     }
 
     private void askSolving() {

@@ -326,4 +326,69 @@ final class OrderSentences {
             }
         }
     }
+
+    /** What was looked at in vain must be looked at again when a cell of it was changed, or changed back. */
+    @Sentence({"3 thermometer: for the lowest constraint that is a thermometer and for which something is removed:",
+        "4 cage: for the lowest cage for which something is removed:",
+        "5 arrow: for the lowest arrow for which something is removed:"})
+    static void deductions_constraintsAfterAChange(Check check) {
+        for (int kind = 0; kind <= 2; kind++) {
+            for (int cell : new int[] {0, 9, 20}) {
+                for (int digit = 1; digit <= 6; digit++) {
+                    for (String change : new String[] {"give", "strike"}) {
+                        changed(check, kind, change, cell, digit);
+                    }
+                }
+            }
+        }
+    }
+
+    /** A constraint of cells that share no unit, all its deductions done, then a change and an undo. */
+    private static void changed(Check check, int kind, String change, int cell, int digit) {
+        NumberPlace x = new NumberPlace();
+        PlainDesk plain = new PlainDesk();
+        Object[][] calls = {{"addConstraint", kind, 0, kind == 0 ? 12 : 0}, {"extend", 0, 9, 0}, {"extend", 0, 20, 0},
+            {"deduce", 500, 0, 0}, {change, cell, digit, 0}, {"deduce", 1, 0, 0}, {"hint", 0, 0, 0},
+            {"deduce", 500, 0, 0}, {"digest", 0, 0, 0}, {"undo", 0, 0, 0}, {"deduce", 500, 0, 0},
+            {"digest", 0, 0, 0}, {"undo", 0, 0, 0},
+            {"undo", 0, 0, 0}, {"undo", 0, 0, 0}, {change, cell, digit, 0}, {"deduce", 500, 0, 0}, {"digest", 0, 0, 0}};
+        for (int k = 0; k < calls.length; k++) {
+            String name = (String) calls[k][0];
+            int a = (int) calls[k][1];
+            int b = (int) calls[k][2];
+            int c = (int) calls[k][3];
+            check.due(change + " " + digit + " in " + cell + ", kind " + kind + ", call " + k + ", " + name,
+                    Script.program(x, name, a, b, c), Script.plain(plain, name, a, b, c));
+        }
+    }
+
+    /** Constraints whose cells are all given, rightly or wrongly, and looked at for the first time. */
+    @Sentence({"3 thermometer: for the lowest constraint that is a thermometer and for which something is removed:",
+        "4 cage: for the lowest cage for which something is removed:",
+        "5 arrow: for the lowest arrow for which something is removed:"})
+    static void deductions_constraintsOfGivenCells(Check check) {
+        int[] deduction = {4, 5, 3};
+        String[] kinds = {";k9:0:9:20", ";a:20:9:0", ";t:0:9:20"};
+        for (int low = 1; low <= 6; low++) {
+            for (int middle = 1; middle <= 6; middle++) {
+                for (int high = 1; high <= 6; high++) {
+                    boolean differ = low != middle && low != high && middle != high;
+                    boolean[] right = {differ && low + middle + high == 9, low + middle == high,
+                        low < middle && middle < high};
+                    for (int kind = 0; kind <= 2; kind++) {
+                        String text = low + "........" + middle + ".........." + high;
+                        NumberPlace x = Check.desk(text, kinds[kind]);
+                        check.due("solutions of " + text + kinds[kind], x.solutions(1), right[kind] ? 1 : 0);
+                        if (differ) {
+                            check.due("three are placed", x.deduce(3), 3);
+                            check.due(text + kinds[kind], x.hint(), right[kind] ? 0 : deduction[kind]);
+                            x.restart();
+                            check.due("once more " + text + kinds[kind], x.deduce(4), right[kind] ? 3 : 4);
+                            check.due("dead: " + text + kinds[kind], x.count(4), right[kind] ? 0 : 1);
+                        }
+                    }
+                }
+            }
+        }
+    }
 }
