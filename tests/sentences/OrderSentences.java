@@ -391,4 +391,45 @@ final class OrderSentences {
             }
         }
     }
+
+    /** A pair beside cells with one of its digits and one other, and with both and one other. */
+    @Sentence({"7 pair: for the lowest unit,", "these are removed from the other cells of the unit"})
+    static void deductions_pairBesideOtherTwos(Check check) {
+        Random random = new Random(7);
+        int pairs = 0;
+        for (int unit = 0; unit < 18; unit++) {
+            for (int run = 0; run < 60; run++) {
+                NumberPlace x = new NumberPlace();
+                PlainDesk plain = new PlainDesk();
+                for (int cell : Geometry.unit(unit)) {
+                    // Few digits to choose from: so there are pairs, and twos that share a digit.
+                    int kept = random.nextInt(4) == 0 ? 126 : 0;
+                    while (Integer.bitCount(kept) < 2) {
+                        kept |= 2 << random.nextInt(2 + run % 5);
+                    }
+                    strikeBut(x, plain, cell, kept);
+                }
+                while (plain.hint() != 0) {
+                    pairs += plain.hint() == 7 ? 1 : 0;
+                    due(check, x, "unit " + unit + ", run " + run, plain.hint(), plain.hintPlace());
+                    x.deduce(1);
+                    plain.deduce(1);
+                    check.due("removed in unit " + unit + ", run " + run, x.count(3), plain.count(3));
+                }
+                check.due("digest of unit " + unit + ", run " + run, x.digest(), plain.digest());
+            }
+        }
+        check.due("pairs", pairs > 200, true);
+        int[] row = Geometry.unit(2);
+        NumberPlace x = new NumberPlace();
+        keepTwo(x, row[0], 1, 2);
+        keepTwo(x, row[1], 1, 3);
+        keepTwo(x, row[3], 1, 2);
+        keepTwo(x, row[4], 2, 4);
+        due(check, x, "a row of twos", 7, 2);
+        x.deduce(1);
+        check.due("1 and 2 are gone from all others", x.step(0, 2), 1 + 1 + 2 + 2);
+        check.due("3 is left", x.candidates(row[1]), 8);
+        check.due("4 is left", x.candidates(row[4]), 16);
+    }
 }
