@@ -52,16 +52,18 @@ public final class CompareTest {
     /** Deductions of a puzzle; most of them have a solution, and constraints that are kept in it. */
     private void solve() {
         int[] digits = fullGrid();
-        for (int k = random.nextInt(30); k > 0 && plain.s.constraints.size() < 8; k--) {
+        boolean onlyConstraints = random.nextInt(2) == 0;
+        for (int k = onlyConstraints ? 200 : random.nextInt(30); k > 0 && plain.s.constraints.size() < 8; k--) {
             drawRight(digits);
         }
         if (random.nextInt(4) == 0) {
             draw();
         }
-        if (random.nextInt(3) == 0) {
+        if (random.nextInt(3) == 0 && !onlyConstraints) {
             giveMany(digits);
         }
-        int keepOneOf = 1 + random.nextInt(12);
+        // Few solutions with many candidates each: every place of a digit counts.
+        int keepOneOf = onlyConstraints ? 1 : 1 + random.nextInt(12);
         for (int cell = 0; cell < 36 && plain.count(1) == 0; cell++) {
             for (int digit = 1; digit <= 6; digit++) {
                 if (digit != digits[cell] && random.nextInt(keepOneOf) != 0) {

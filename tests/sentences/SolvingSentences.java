@@ -8,6 +8,13 @@ final class SolvingSentences {
         x.make(1, 0);
         check.due("deductions are enough", x.guesses(), 0);
         check.due("and are many", x.deduce(500) >= 36, true);
+        for (int seed : new int[] {334, 367, 4091}) {
+            NumberPlace many = new NumberPlace();
+            many.make(seed, 0);
+            check.due("no guess in " + seed, many.guesses(), 0);
+            check.due("many deductions in " + seed, many.deduce(500) > 45, true);
+            check.due("enough in " + seed, many.count(5), 1);
+        }
         NumberPlace y = Check.desk("1..4....2..5...1...3....6....2..5..1", "");
         int guesses = y.guesses();
         check.due("not enough", guesses, 1);
@@ -204,6 +211,41 @@ final class SolvingSentences {
         NumberPlace x = longWay();
         x.deduce(500);
         return x;
+    }
+
+    /** The log goes round: compared with a plain one, as far behind its hundredth deduction as was found. */
+    @Sentence("The latest 100 deductions are kept, the oldest first,")
+    static void log_farBehindHundred(Check check) {
+        int[] struck = {6, 14, 21, 22, 23, 27, 28, 29, 31, 39, 40, 46, 49, 53, 55, 56, 60, 65, 66, 68, 69, 78, 80, 88,
+            89, 96, 97, 100, 101, 104, 107, 120, 124, 132, 133, 137, 140, 143, 148, 149, 153, 154, 155, 165, 169, 179,
+            180, 181, 182, 185, 188, 191, 194, 201, 203, 206, 207};
+        NumberPlace x = new NumberPlace();
+        PlainDesk plain = new PlainDesk();
+        String text = Desks.DOTS + ";t:35:15;a:2:26;t:35:0;a:18:27;t:29:19;a:15:12;t:14:7:10:28;t:35:21";
+        for (int k = 0; k < text.length(); k++) {
+            check.due("byte " + k, x.append(text.charAt(k)), plain.append(text.charAt(k)));
+        }
+        check.due("parse", x.parse(), plain.parse());
+        for (int k : struck) {
+            check.due("candidate " + k, x.strike(k / 6, k % 6 + 1), plain.strike(k / 6, k % 6 + 1) != 0);
+        }
+        int all = 0;
+        while (plain.hint() != 0) {
+            all++;
+            plain.deduce(1);
+            x.deduce(1);
+            if (all > 98) {
+                check.due("the log behind " + all, x.digest(), plain.digest());
+                check.due("as many", x.logged(), Math.min(100, all));
+            }
+        }
+        check.due("deductions", all, 109);
+        x.undo();
+        plain.undo();
+        check.due("the last one undone", x.digest(), plain.digest());
+        x.deduce(5);
+        plain.deduce(5);
+        check.due("and done", x.digest(), plain.digest());
     }
 
     @Sentence("The latest 100 deductions are kept")
