@@ -10,6 +10,7 @@ public final class CompareTest {
     private static int compared = 0;
 
     public static void main(String[] args) {
+        Watch.begin("CompareTest");
         int first = args.length > 0 ? Integer.parseInt(args[0]) : 1;
         int runs = args.length > 1 ? Integer.parseInt(args[1]) : 200;
         for (int run = first; run < first + runs && wrong < 20; run++) {

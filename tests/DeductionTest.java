@@ -6,6 +6,7 @@ public final class DeductionTest {
     private static final Check check = new Check();
 
     public static void main(String[] args) {
+        Watch.begin("DeductionTest");
         single();
         onlyPlace();
         everyUnitAndDigit();

@@ -13,6 +13,7 @@ import java.util.List;
 /** The public face: what the document shows, with its exceptions, and nothing else. */
 public final class FaceTest {
     public static void main(String[] args) throws IOException {
+        Watch.begin("FaceTest");
         Path path = Paths.get("../shared/DOC.md");
         if (!Files.exists(path)) {
             System.out.println("no " + path + ": the face is not compared with it");

@@ -18,6 +18,7 @@ public final class LanguageTest {
     private static final String[] PUBLIC_NAMES = Script.NAMES;
 
     public static void main(String[] args) throws IOException {
+        Watch.begin("LanguageTest");
         List<String> lines = Files.readAllLines(Paths.get("src/main/java/NumberPlace.java"));
         int classes = 0;
         int start = -1;

@@ -3,6 +3,7 @@ public final class PuzzleTest {
     private static final Check check = new Check();
 
     public static void main(String[] args) {
+        Watch.begin("PuzzleTest");
         newObject();
         begin();
         give();

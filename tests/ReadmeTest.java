@@ -19,6 +19,7 @@ public final class ReadmeTest {
     private static final Check check = new Check();
 
     public static void main(String[] args) throws IOException {
+        Watch.begin("ReadmeTest");
         Readme readme = new Readme(Paths.get("README.md"));
         if (Compiled.isPossible()) {
             runBlocks(readme.blocks());

@@ -9,6 +9,7 @@ public final class RoomTest {
     private static int wrong = 0;
 
     public static void main(String[] args) {
+        Watch.begin("RoomTest");
         measure("made", ".1", "");
         measure("no solution, late to be seen", "", ";t:2:8;t:25:31;a:17:16;t:27:21");
         measure("many guesses", "", ";k13:25:34:26:30;k9:35:31:33");

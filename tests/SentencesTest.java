@@ -27,6 +27,7 @@ public final class SentencesTest {
     private static int failed = 0;
 
     public static void main(String[] args) throws IOException {
+        Watch.begin("SentencesTest");
         for (Method method : tests()) {
             if (isAsked(method.getName(), args)) {
                 runOne(method);

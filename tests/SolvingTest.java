@@ -6,6 +6,7 @@ public final class SolvingTest {
     private static final Check check = new Check();
 
     public static void main(String[] args) {
+        Watch.begin("SolvingTest");
         emptyGrid();
         bruteForce();
         struckPositions();

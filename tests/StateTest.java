@@ -3,6 +3,7 @@ public final class StateTest {
     private static final Check check = new Check();
 
     public static void main(String[] args) {
+        Watch.begin("StateTest");
         undoOfEach();
         logIsUndone();
         fourStates();

@@ -4,6 +4,7 @@ public final class TextTest {
     private static final String DOTS = "....................................";
 
     public static void main(String[] args) {
+        Watch.begin("TextTest");
         append();
         givens();
         constraints();

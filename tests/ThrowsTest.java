@@ -23,6 +23,7 @@ public final class ThrowsTest {
     private static int wrong = 0;
 
     public static void main(String[] args) throws IllegalAccessException {
+        Watch.begin("ThrowsTest");
         int calls = 0;
         int refused = 0;
         for (int life = 1; life <= LIVES; life++) {

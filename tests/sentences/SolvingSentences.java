@@ -79,8 +79,9 @@ final class SolvingSentences {
     private static void plainly(Check check, NumberPlace x, int least) {
         PlainDesk plain = new PlainDesk();
         for (int cell = 0; cell < 36; cell++) {
+            int open = x.candidates(cell);
             for (int digit = 1; digit <= 6; digit++) {
-                if ((x.candidates(cell) >> digit & 1) == 0) {
+                if ((open >> digit & 1) == 0) {
                     plain.strike(cell, digit);
                 }
             }
